@@ -38,12 +38,13 @@ public final class TernaryCompiler {
     private final int[] kept = new int[KEPT];
     private int prints = 0;
 
-    // What link() finds: these hold for a run only, after link() has answered true.
+    // Written anew by each link(), and to be relied on only after it has answered true.
     private final int[] openAt = new int[DEPTH];
     private final int[] openerOf = new int[STATEMENTS];
     private final int[] endOf = new int[STATEMENTS];
     private final int[] zeroOf = new int[STATEMENTS];
     private final int[] posOf = new int[STATEMENTS];
+
     private final int[] passesLeft = new int[STATEMENTS];
 
     public TernaryCompiler() {
@@ -229,7 +230,7 @@ public final class TernaryCompiler {
     }
 
     private boolean beginSection(int at, int opener) {
-        // Neither a second ZERO nor a second POS nor a ZERO may follow a POS.
+        // Nothing may begin after POS in the same choice, so one test rules out POS twice and ZERO after POS.
         if (kinds[opener] != CASE || posOf[opener] != NONE) {
             return false;
         }
