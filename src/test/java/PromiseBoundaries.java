@@ -287,12 +287,15 @@ public final class PromiseBoundaries {
             int kind = Subject.KINDS.indexOf(name);
             int[] others = {-1, 5, 6, LEAST, GREATEST};
             for (int other : others) {
-                int a = WITHOUT_A.contains(name) ? other : 0;
+                int a = WITHOUT_A.contains(name) ? other : 1;
                 // The b of SET is any number, and it does play a part.
-                int b = WITH_B.contains(name) || name.equals("SET") ? 0 : other;
-                int c = WITH_C.contains(name) ? 0 : other;
+                int b = WITH_B.contains(name) || name.equals("SET") ? 2 : other;
+                int c = WITH_C.contains(name) ? 3 : other;
                 new Subject().add(kind, a, b, c).is(1);
-                States.same(() -> around(kind, a, b, c), () -> around(kind, 0, 0, 0));
+                int[] choosing = {-4, 0, 4};
+                for (int value : choosing) {
+                    States.same(() -> around(value, kind, a, b, c), () -> around(value, kind, 1, 2, 3));
+                }
             }
         }
         int[] numbers = {-1, 6, LEAST, GREATEST};
@@ -301,20 +304,23 @@ public final class PromiseBoundaries {
         }
     }
 
-    /** A program with this statement in its middle, sound where the kind lets it be. */
-    private static Subject around(int kind, int a, int b, int c) {
+    /** A program with this statement in its middle, sound and with choices that go by this value of variable 1. */
+    private static Subject around(int value, int kind, int a, int b, int c) {
         Subject x = new Subject();
-        int[] values = {3, -4, 5, 6, 7, 8};
+        int[] values = {3, value, 5, 6, 7, 8};
         for (int v = 0; v < values.length; v++) {
             x.put(v, values[v]);
         }
-        boolean section = kind == 8 || kind == 9;
-        boolean opens = kind == 7 || kind == 10;
-        boolean closes = kind == 11;
-        x.feed(section ? "CASE 0; PRINT 1" : closes ? "LOOP 2; PRINT 1" : "PRINT 1");
+        String name = Subject.KINDS.get(kind);
+        boolean parts = name.equals("ZERO") || name.equals("POS");
+        x.feed(parts ? "CASE 1; PRINT 0" : name.equals("END") ? "LOOP 2; PRINT 0" : "PRINT 0");
         x.add(kind, a, b, c);
-        x.feed(section || opens ? "PRINT 2; END; PRINT 0" : "PRINT 0");
-        return x;
+        if (name.equals("CASE")) {
+            x.feed("PRINT 2; ZERO; PRINT 3; POS; PRINT 4; END");
+        } else if (parts || name.equals("LOOP")) {
+            x.feed("PRINT 2; END");
+        }
+        return x.feed("PRINT 1; PRINT 5");
     }
 
     private static void addAnswersTheNumber() {
@@ -582,9 +588,14 @@ public final class PromiseBoundaries {
         again.put(0, 9841);
         again.run().is(0);
         again.variable(0).is(-9802);
-        Subject longest = new Subject().feed("LOOP 5; LOOP 5; LOOP 5; " + "ADD 0 0 1; ".repeat(33) + "END; END; END; PRINT 0");
+        // No program passes more statements than this one.
+        Subject longest = new Subject().feed("LOOP 5; LOOP 5; LOOP 5; " + "ADD 0 0 1; ".repeat(34) + "END; END; END");
         longest.put(1, 1);
-        longest.prints(4125);
+        longest.run().is(0);
+        longest.variable(0).is(4250);
+        Subject behind = new Subject().feed("LOOP 5; LOOP 5; LOOP 5; " + "ADD 0 0 1; ".repeat(33) + "END; END; END; PRINT 0");
+        behind.put(1, 1);
+        behind.prints(4125);
         Subject loops = new Subject().feed("LOOP 5; LOOP 5; " + "LOOP 5; ADD 0 0 1; END; ".repeat(11) + "END; END; PRINT 0; ADD 2 2 1; PRINT 2");
         loops.put(1, 1);
         loops.prints(1375, 1);

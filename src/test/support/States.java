@@ -69,10 +69,7 @@ final class States {
 
     /** All 40 statements, the last of which is open. */
     static Subject fullUnsound() {
-        Subject x = full();
-        x.retract();
-        x.feed("CASE 0");
-        return x;
+        return nearlyFull().feed("CASE 0");
     }
 
     static List<Supplier<Subject>> withRoom() {
@@ -110,7 +107,8 @@ final class States {
 
     /** All that can be asked, now and later, is answered alike. Each way of asking has objects of its own. */
     static void same(Supplier<Subject> made, Supplier<Subject> like) {
-        List<Function<Subject, List<Subject.Answer>>> ways = List.of(States::asked, States::runAndAsked, States::unwound, States::filled);
+        List<Function<Subject, List<Subject.Answer>>> ways = List.of(
+            States::asked, States::runAndAsked, States::unwound, States::closed, States::filled);
         for (Function<Subject, List<Subject.Answer>> way : ways) {
             List<Subject.Answer> got = way.apply(made.get());
             List<Subject.Answer> want = way.apply(like.get());
@@ -154,6 +152,20 @@ final class States {
                 answers.add(x.variable(v));
             }
         }
+        return answers;
+    }
+
+    /** Closes what is open, so that the statements in it show too. */
+    private static List<Subject.Answer> closed(Subject x) {
+        List<Subject.Answer> answers = new ArrayList<>();
+        for (int n = 0; n < 3; n++) {
+            Subject.Answer sound = x.sound();
+            answers.add(sound);
+            if (sound.got == 0) {
+                answers.add(x.add("END"));
+            }
+        }
+        answers.addAll(runAndAsked(x));
         return answers;
     }
 
