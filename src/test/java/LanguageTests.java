@@ -44,6 +44,8 @@ public final class LanguageTests {
         due("the scan finds every method", bodies.keySet().equals(declaredNames()), bodies.keySet());
         methodsAreShort(bodies);
         callsAreAllowed(bodies);
+        divisorsAreFixed(code);
+        loopsAreCounted(bodies);
         System.out.println("LanguageTests: " + passed + " passed, " + failed + " failed");
         if (failed != 0) {
             System.exit(1);
@@ -219,6 +221,36 @@ public final class LanguageTests {
         for (String name : calls.keySet()) {
             int depth = depth(calls, name, 0);
             due("rules 8 and 10", depth <= 6, name + " calls " + depth + " deep");
+        }
+    }
+
+    private static void divisorsAreFixed(String code) {
+        Matcher divisions = Pattern.compile("[/%]=?\\s*(\\w*)").matcher(code);
+        while (divisions.find()) {
+            String divisor = divisions.group(1);
+            due("rule 7", divisor.matches("[1-9][0-9]*|[A-Z]+"), "a division by " + divisor);
+        }
+    }
+
+    /** Stricter than rule 8: each loop counts up to a bound, and nothing but its head changes the counter. */
+    private static void loopsAreCounted(Map<String, String> bodies) {
+        Pattern counted = Pattern.compile("for \\(int (\\w+) = 0; \\1 < \\w+(?: && [^;|]+)?; \\1\\+\\+\\)");
+        for (Map.Entry<String, String> method : bodies.entrySet()) {
+            String body = method.getValue();
+            Matcher loops = Pattern.compile("\\b(?:for|while|do)\\b[^\n]*").matcher(body);
+            while (loops.find()) {
+                Matcher head = counted.matcher(loops.group());
+                boolean holds = head.lookingAt();
+                due("rule 8", holds, method.getKey() + ": " + loops.group());
+                if (holds) {
+                    String counter = "\\b" + head.group(1) + "\\b";
+                    String change = counter + "\\s*(?:[-+*/%&|^<>]*=(?!=)|\\+\\+|--)|(?:\\+\\+|--)\\s*" + counter;
+                    long heads = Pattern.compile("for \\(int " + counter).matcher(body).results().count();
+                    // "<=" and ">=" look like changes but are comparisons, so they are taken out first.
+                    long changes = Pattern.compile(change).matcher(body.replaceAll("[<>]=", "<")).results().count();
+                    due("rule 8", changes == 2 * heads, method.getKey() + " changes " + head.group(1) + " in its loop");
+                }
+            }
         }
     }
 
